@@ -335,8 +335,9 @@ public final class PlaneBench {
         }
 
         static void setSmall(int[] a, int i, int n) {
-            Arrays.fill(a, i, i + WORDS, 0);
-            a[i] = n;
+            for (int w = 0; w < WORDS; w++) {
+                a[i + w] = w == 0 ? n : 0;
+            }
         }
 
         /** The number, or NONE if an int does not take it. */
@@ -537,11 +538,6 @@ public final class PlaneBench {
             negated = sign < 0 ? negated | bit : negated & ~bit;
         }
 
-        private void drop(int variable) {
-            Wide.setSmall(words, variable * Wide.WORDS, 0);
-            setSign(variable, 0);
-        }
-
         private void settle(int bound) {
             calm = false;
             width = bound;
@@ -699,7 +695,8 @@ public final class PlaneBench {
         void without(int variable) {
             if (has(variable)) {
                 takeOffDegree(words, variable * Wide.WORDS, 0, width);
-                drop(variable);
+                Wide.setSmall(words, variable * Wide.WORDS, 0);
+                setSign(variable, 0);
                 settle(width);
             }
         }
@@ -890,7 +887,7 @@ public final class PlaneBench {
                 int b = byteAt(i);
                 if (b == '#') {
                     note = true;
-                } else if (!isBlank(b) && !(note && isTextByte(b))) {
+                } else if (!isBlank(b) && !(note && isPrinted(b))) {
                     return i;
                 } else if (b == '\n') {
                     note = false;
@@ -903,8 +900,8 @@ public final class PlaneBench {
             return b == ' ' || b == '\n' || b == '\t';
         }
 
-        private static boolean isTextByte(int b) {
-            return b >= 32 && b <= 126 || isBlank(b);
+        private static boolean isPrinted(int b) {
+            return b >= 32 && b <= 126;
         }
 
         private static boolean isDigit(int b) {

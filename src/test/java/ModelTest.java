@@ -14,6 +14,9 @@ public final class ModelTest {
         for (int i = 0; i < runs; i++) {
             run(new Random(seed * 1000003 + i));
         }
+        for (int i = 0; i < runs / 5; i++) {
+            runWild(new Random(seed * 3000017 + i));
+        }
         for (int i = 0; i < runs / 10; i++) {
             runHard(new Random(seed * 2000003 + i));
         }
@@ -58,6 +61,33 @@ public final class ModelTest {
         }
         for (PlainModel.Row row : p.model.rows) {
             origins[row.origin]++;
+        }
+    }
+
+    /** Calls in any order with any arguments. */
+    private static void runWild(Random r) {
+        Pair p = new Pair(wild(r));
+        for (int i = 0; i < 250; i++) {
+            int which = r.nextInt(15);
+            if (r.nextInt(12) == 0) {
+                p.write(r.nextBoolean() ? problem(r, p.model.v, r.nextInt(6)) : step(r, p.model.v, p.model.rows.size()));
+            }
+            if (which != 2 || r.nextInt(4) == 0) {
+                p.call(which, wild(r), wild(r), wild(r));
+            }
+        }
+        p.compareAll(r.nextInt());
+    }
+
+    private static int wild(Random r) {
+        switch (r.nextInt(12)) {
+            case 0: return r.nextInt();
+            case 1: return Integer.MAX_VALUE - r.nextInt(2);
+            case 2: return Integer.MIN_VALUE + r.nextInt(2);
+            case 3: return r.nextInt(1100) - 500;
+            case 4: return r.nextInt(40) - 20;
+            case 5: return 0x20202020;
+            default: return r.nextInt(9) - 1;
         }
     }
 

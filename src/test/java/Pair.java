@@ -64,6 +64,29 @@ final class Pair {
         return done;
     }
 
+    /** One call of the face, whichever, with these arguments. */
+    void call(int which, int a, int b, int c) {
+        String call = "call " + which + " (" + a + ", " + b + ", " + c + ")";
+        told.append("\n  ").append(call);
+        switch (which) {
+            case 0: same(call, bench.feed(a, b, c, a, b), model.feed(a, b, c, a, b)); break;
+            case 1: same(call, bench.back(a), model.back(a)); break;
+            case 2: same(call, bench.load(), model.load()); break;
+            case 3: same(call, bench.check(), model.check()); break;
+            case 4: same(call, bench.fault(a), model.fault(a)); break;
+            case 5: same(call, bench.literal(a, b), model.literal(a, b)); break;
+            case 6: same(call, bench.piece(a, b, c), model.piece(a, b, c)); break;
+            case 7: same(call, bench.holds(a, b) ? 1 : 0, model.holds(a, b) ? 1 : 0); break;
+            case 8: same(call, bench.origin(a), model.origin(a)); break;
+            case 9: same(call, bench.begin() ? 1 : 0, model.begin() ? 1 : 0); break;
+            case 10: same(call, bench.run(a), model.run(a)); break;
+            case 11: same(call, bench.value(a), model.value(a)); break;
+            case 12: same(call, bench.trail(a, b), model.trail(a, b)); break;
+            case 13: same(call, bench.proof(a), model.proof(a)); break;
+            default: same(call, bench.count(a), model.count(a)); break;
+        }
+    }
+
     void compareTexts() {
         same("fault(0)", bench.fault(0), model.fault(0));
         same("fault(1)", bench.fault(1), model.fault(1));
