@@ -17,6 +17,7 @@ public final class TextTest {
         faultsGoFromTheLeft();
         linesAreTold();
         wideNumbers();
+        divisions();
         Due.end("TextTest");
     }
 
@@ -482,6 +483,36 @@ public final class TextTest {
             java.math.BigInteger.TEN.pow(27));
         for (int i = 0; i < 8; i++) {
             Due.due("piece(2, 1, " + i + ")", x.piece(2, 1, i), due.shiftRight(32 * i).intValue());
+        }
+    }
+
+    /** Words at the edges, where long division guesses wrong. */
+    private static java.math.BigInteger edgy(java.util.Random r) {
+        long[] words = {0, 1, 2, 0x7fffffffL, 0x80000000L, 0x80000001L, 0xfffffffeL, 0xffffffffL};
+        java.math.BigInteger n = java.math.BigInteger.valueOf(1 + r.nextInt(3));
+        for (int i = r.nextInt(7); i > 0; i--) {
+            n = n.shiftLeft(32).add(java.math.BigInteger.valueOf(words[r.nextInt(words.length)]));
+        }
+        n = n.shiftRight(r.nextInt(4)).max(java.math.BigInteger.ONE);
+        return n.toString().length() > 60 ? n.shiftRight(32) : n;
+    }
+
+    private static void divisions() {
+        java.util.Random r = new java.util.Random(11);
+        for (int i = 0; i < 4000; i++) {
+            java.math.BigInteger a = edgy(r);
+            java.math.BigInteger f = edgy(r);
+            java.math.BigInteger d = edgy(r);
+            PlaneBench x = Due.loaded(1, a + "x1>=" + f + ";");
+            boolean room = a.max(f).multiply(f).compareTo(PlainModel.ROOM) < 0;
+            String step = "p 1 " + f + " * " + d + " d ;";
+            Due.due(a + " " + step, Due.check(x, step), room ? 1 : 0);
+            java.math.BigInteger due = PlainModel.Row.up(a.multiply(f), d);
+            java.math.BigInteger degree = PlainModel.Row.up(f.multiply(f), d);
+            for (int w = 0; w < 8 && room; w++) {
+                Due.due(a + " " + step + " piece " + w, x.piece(2, 1, w), due.shiftRight(32 * w).intValue());
+                Due.due(a + " " + step + " DEGREE " + w, x.piece(2, 0, w), degree.shiftRight(32 * w).intValue());
+            }
         }
     }
 }
