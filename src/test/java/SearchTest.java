@@ -246,10 +246,10 @@ public final class SearchTest {
         Due.due("FULL, not NONE", z.count(3), 4);
     }
 
-    /** Great numbers make a long PROOF: it ends with a STEP that is whole. */
-    private static void fullByProof() {
+    /** Three sums of great numbers that are hard to meet. */
+    private static PlaneBench searched(int seed) {
         StringBuilder text = new StringBuilder();
-        java.util.Random r = new java.util.Random(5);
+        java.util.Random r = new java.util.Random(seed);
         for (int i = 0; i < 3; i++) {
             java.math.BigInteger sum = java.math.BigInteger.ZERO;
             for (int n = 1; n <= 16; n++) {
@@ -265,6 +265,12 @@ public final class SearchTest {
             acts += x.run(500);
         }
         Due.due("ACTS", x.count(8), acts);
+        return x;
+    }
+
+    /** Great numbers make a long PROOF: it ends with a STEP that is whole. */
+    private static void fullByProof() {
+        PlaneBench x = searched(5);
         Due.due("FULL", x.count(3), 4);
         Due.due("not by LINES", x.count(0) < 300, true);
         Due.due("near the limit", x.count(2) > 18000 && x.count(2) <= 20000, true);
@@ -273,6 +279,8 @@ public final class SearchTest {
         Due.due("LINES learned", x.count(0) - x.count(1), x.count(7));
         int steps = Due.proof(x).split("\n").length;
         Due.due("a STEP for each", steps, x.count(7));
+        Due.due("20,000 bytes are not too many", searched(167).count(2), 20000);
+        Due.due("20,001 bytes are", searched(102).count(2) < 20000, true);
     }
 
     private static void countsOfThisSearch() {

@@ -330,6 +330,9 @@ public final class TextTest {
         Due.due("DIVIDED", Due.check(x, "p 5 3 d ;"), 1);
         Due.due("rounded up", x.piece(9, 1, 0), 0xaaaaaaab);
         Due.due("its top", x.piece(9, 1, 7), 0x2aaaaaaa);
+        Due.due("2 to the 255 of x2, DEGREE 0", Due.check(x, "p 3 2 d " + f + "170141183460469231731687303715884105728 * ;"), 1);
+        Due.due("the COEFFICIENT alone", Due.check(x, "p 10 10 + ;"), 0);
+        fault("the COEFFICIENT alone", x, 5, 8);
         PlaneBench y = small();
         Due.due("300 LINES", Due.check(y, "p 1;".repeat(298)), 298);
         Due.due("count(0)", y.count(0), 300);
