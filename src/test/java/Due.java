@@ -1,16 +1,24 @@
+import java.math.BigInteger;
+
 /** What tests with answers worked out by hand share. */
 final class Due {
     static int wrong = 0;
     static int asked = 0;
+    private static String sentence = "";
 
     private Due() {
+    }
+
+    /** The document's sentence that the next answers are about: what is wrong is told with it. */
+    static void sentence(String words) {
+        sentence = "[" + words + "] ";
     }
 
     static void due(String what, long got, long want) {
         asked++;
         if (got != want) {
             wrong++;
-            System.out.println(what + " answered " + got + ", due is " + want);
+            System.out.println(sentence + what + " answered " + got + ", due is " + want);
         }
     }
 
@@ -22,7 +30,7 @@ final class Due {
         asked++;
         if (!got.equals(want)) {
             wrong++;
-            System.out.println(what + " answered [" + got + "], due is [" + want + "]");
+            System.out.println(sentence + what + " answered [" + got + "], due is [" + want + "]");
         }
     }
 
@@ -31,42 +39,70 @@ final class Due {
         System.exit(wrong == 0 && asked > 0 ? 0 : 1);
     }
 
+    /** The text's bytes from a place on, five words of them, blanks behind its end. */
+    static int[] words(String text, int from) {
+        int[] words = new int[5];
+        for (int b = 0; b < 20; b++) {
+            int c = from + b < text.length() ? text.charAt(from + b) : ' ';
+            words[b / 4] = words[b / 4] << 8 | c & 255;
+        }
+        return words;
+    }
+
     /** The text comes behind the tape: twenty bytes at a time, the blanks that fill up the last ones go again. */
-    static PlaneBench write(PlaneBench x, String text) {
+    static Bench write(Bench x, String text) {
         for (int i = 0; i < text.length(); i += 20) {
-            int[] words = new int[5];
-            for (int b = 0; b < 20; b++) {
-                int c = i + b < text.length() ? text.charAt(i + b) : ' ';
-                words[b / 4] = words[b / 4] << 8 | c & 255;
-            }
+            int[] words = words(text, i);
             x.feed(words[0], words[1], words[2], words[3], words[4]);
         }
-        x.back((20 - text.length() % 20) % 20);
+        if (text.length() % 20 != 0) {
+            x.back(20 - text.length() % 20);
+        }
         return x;
     }
 
-    static PlaneBench loaded(int v, String problem) {
-        PlaneBench x = write(new PlaneBench(v), problem);
-        x.load();
+    static int load(Bench x, String problem) {
+        return write(x, problem).load();
+    }
+
+    static Bench loaded(int v, String problem) {
+        Bench x = new Bench(v);
+        load(x, problem);
         return x;
     }
 
-    static int check(PlaneBench x, String steps) {
+    static int check(Bench x, String steps) {
         return write(x, steps).check();
     }
 
-    /** A LINE as text, for LINES of small numbers: "2 x1 1 ~x3 >= 2". */
-    static String line(PlaneBench x, int k) {
-        StringBuilder text = new StringBuilder();
-        for (int n = 1; n <= 16; n++) {
-            if (x.piece(k, n, 0) != 0) {
-                text.append(x.piece(k, n, 0)).append(x.literal(k, n) == 1 ? " x" : " ~x").append(n).append(' ');
-            }
-        }
-        return text.append(">= ").append(x.piece(k, 0, 0)).toString();
+    static void fault(String what, Bench x, int kind, int place) {
+        due(what + ": fault(0)", x.fault(0), kind);
+        due(what + ": fault(1)", x.fault(1), place);
     }
 
-    static String proof(PlaneBench x) {
+    /** A COEFFICIENT, of the VARIABLE 0 the DEGREE. */
+    static BigInteger number(Bench x, int k, int n) {
+        BigInteger number = BigInteger.ZERO;
+        for (int i = 7; i >= 0; i--) {
+            number = number.shiftLeft(32).or(BigInteger.valueOf(x.piece(k, n, i) & 0xffffffffL));
+        }
+        return number;
+    }
+
+    /** A LINE as text: "2 x1 1 ~x3 >= 2". */
+    static String line(Bench x, int k) {
+        StringBuilder text = new StringBuilder();
+        for (int n = 1; n <= x.variables(); n++) {
+            BigInteger number = number(x, k, n);
+            int sign = x.literal(k, n);
+            if (number.signum() != 0 || sign != 0) {
+                text.append(number).append(sign == 1 ? " x" : sign == -1 ? " ~x" : " ?").append(n).append(' ');
+            }
+        }
+        return text.append(">= ").append(number(x, k, 0)).toString();
+    }
+
+    static String proof(Bench x) {
         StringBuilder text = new StringBuilder();
         for (int i = 0; x.proof(i) != PlaneBench.NONE; i++) {
             text.append((char) x.proof(i));
@@ -75,7 +111,7 @@ final class Due {
     }
 
     /** The TRAIL as "literal@level/line" behind one another. */
-    static String trail(PlaneBench x) {
+    static String trail(Bench x) {
         StringBuilder text = new StringBuilder();
         for (int i = 0; i < x.count(4); i++) {
             text.append(i == 0 ? "" : " ").append(x.trail(i, 0)).append('@').append(x.trail(i, 1));

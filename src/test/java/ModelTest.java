@@ -72,8 +72,8 @@ public final class ModelTest {
             if (r.nextInt(12) == 0) {
                 p.write(r.nextBoolean() ? problem(r, p.model.v, r.nextInt(6)) : step(r, p.model.v, p.model.rows.size()));
             }
-            if (which != 2 || r.nextInt(4) == 0) {
-                p.call(which, wild(r), wild(r), wild(r));
+            if (which != Bench.LOAD || r.nextInt(4) == 0) {
+                p.call(which, wild(r), wild(r), wild(r), wild(r), wild(r));
             }
         }
         p.compareAll(r.nextInt());
@@ -113,10 +113,24 @@ public final class ModelTest {
                 steps(r, p);
             }
         }
-        p.compareAll(r.nextInt());
+        compareSome(r, p);
         states[p.model.state]++;
         if (p.model.state == 4) {
             fulls[p.model.rows.size() == 300 ? 0 : p.model.proof.length() > 18000 ? 1 : 2]++;
+        }
+    }
+
+    /** All answers of a long search are many: some LINES, a piece of the PROOF and its end. */
+    private static void compareSome(Random r, Pair p) {
+        p.compareTexts();
+        p.compareSearch();
+        int size = p.model.proof.length();
+        int from = r.nextInt(size + 1);
+        p.compareProof(from, Math.min(size, from + 1500));
+        p.compareProof(size - 10, size + 1);
+        int lines = p.model.rows.size();
+        for (int i = 0; i < 6; i++) {
+            p.compareLine(i == 0 ? lines : r.nextInt(lines + 2), r.nextInt());
         }
     }
 

@@ -1,110 +1,119 @@
 /** A PlaneBench and a PlainModel side by side: each call goes to both, and the answers must be the same. */
 final class Pair {
     static int wrong = 0;
+    /** Calls of each object that are left for questions. */
+    private static final int QUESTIONS = 100;
 
-    final PlaneBench bench;
+    final Bench bench;
     final PlainModel model;
     private final StringBuilder told = new StringBuilder();
 
     Pair(int v) {
-        bench = new PlaneBench(v);
+        bench = new Bench(v);
         model = new PlainModel(v);
         told.append("new PlaneBench(").append(v).append(")");
     }
 
-    int same(String call, int got, int due) {
+    private static String written(int... call) {
+        StringBuilder text = new StringBuilder("call ").append(call[0]).append(" (");
+        for (int i = 1; i < call.length; i++) {
+            text.append(i == 1 ? "" : ", ").append(call[i]);
+        }
+        return text.append(")").toString();
+    }
+
+    /** The call by both; none if it is one that changes something, and the object has had its calls of these. */
+    int same(int... call) {
+        if (bench.left() <= QUESTIONS && !Bench.isQuestion(call[0])) {
+            return 0;
+        }
+        int got = bench.call(call);
+        int due = model.answer(call);
         if (got != due) {
             wrong++;
             if (wrong <= 20) {
-                System.out.println(told + "\n  " + call + " answered " + got + ", due is " + due);
+                System.out.println(told + "\n  " + written(call) + " answered " + got + ", due is " + due);
             }
         }
         return due;
     }
 
-    /** The bytes of the text, the last 20 filled up with blanks that go again. */
+    /** Comes to the tape, if there are calls enough left for it and for what is to be done with it. */
     void write(String text) {
+        if (text.length() / 20 + 20 > bench.left() - QUESTIONS) {
+            return;
+        }
         told.append("\n  tape: ").append(text.replace("\n", "\\n"));
         for (int i = 0; i < text.length(); i += 20) {
-            int[] words = new int[5];
-            for (int b = 0; b < 20; b++) {
-                int c = i + b < text.length() ? text.charAt(i + b) : ' ';
-                words[b / 4] = words[b / 4] << 8 | c & 255;
-            }
-            int got = bench.feed(words[0], words[1], words[2], words[3], words[4]);
-            same("feed", got, model.feed(words[0], words[1], words[2], words[3], words[4]));
+            int[] words = Due.words(text, i);
+            same(Bench.FEED, words[0], words[1], words[2], words[3], words[4]);
         }
-        int over = (20 - text.length() % 20) % 20;
-        same("back", bench.back(over), model.back(over));
+        same(Bench.BACK, (20 - text.length() % 20) % 20);
+    }
+
+    /** A call that is told if a later answer is wrong. */
+    int call(int... call) {
+        told.append("\n  ").append(written(call));
+        return same(call);
     }
 
     int load() {
-        told.append("\n  load()");
-        int n = same("load()", bench.load(), model.load());
+        int n = call(Bench.LOAD);
         compareTexts();
         return n;
     }
 
     int check() {
-        told.append("\n  check()");
-        int n = same("check()", bench.check(), model.check());
+        int n = call(Bench.CHECK);
         compareTexts();
         return n;
     }
 
     void begin() {
-        told.append("\n  begin()");
-        same("begin()", bench.begin() ? 1 : 0, model.begin() ? 1 : 0);
+        call(Bench.BEGIN);
     }
 
     int run(int n) {
-        told.append("\n  run(").append(n).append(")");
-        int done = same("run", bench.run(n), model.run(n));
+        int done = call(Bench.RUN, n);
         compareSearch();
         return done;
     }
 
-    /** One call of the face, whichever, with these arguments. */
-    void call(int which, int a, int b, int c) {
-        String call = "call " + which + " (" + a + ", " + b + ", " + c + ")";
-        told.append("\n  ").append(call);
-        switch (which) {
-            case 0: same(call, bench.feed(a, b, c, a, b), model.feed(a, b, c, a, b)); break;
-            case 1: same(call, bench.back(a), model.back(a)); break;
-            case 2: same(call, bench.load(), model.load()); break;
-            case 3: same(call, bench.check(), model.check()); break;
-            case 4: same(call, bench.fault(a), model.fault(a)); break;
-            case 5: same(call, bench.literal(a, b), model.literal(a, b)); break;
-            case 6: same(call, bench.piece(a, b, c), model.piece(a, b, c)); break;
-            case 7: same(call, bench.holds(a, b) ? 1 : 0, model.holds(a, b) ? 1 : 0); break;
-            case 8: same(call, bench.origin(a), model.origin(a)); break;
-            case 9: same(call, bench.begin() ? 1 : 0, model.begin() ? 1 : 0); break;
-            case 10: same(call, bench.run(a), model.run(a)); break;
-            case 11: same(call, bench.value(a), model.value(a)); break;
-            case 12: same(call, bench.trail(a, b), model.trail(a, b)); break;
-            case 13: same(call, bench.proof(a), model.proof(a)); break;
-            default: same(call, bench.count(a), model.count(a)); break;
-        }
-    }
-
     void compareTexts() {
-        same("fault(0)", bench.fault(0), model.fault(0));
-        same("fault(1)", bench.fault(1), model.fault(1));
+        same(Bench.FAULT, 0);
+        same(Bench.FAULT, 1);
         compareCounts();
     }
 
     void compareCounts() {
         for (int i = -1; i <= 11; i++) {
-            same("count(" + i + ")", bench.count(i), model.count(i));
+            same(Bench.COUNT, i);
         }
     }
 
     void compareSearch() {
         compareCounts();
         for (int i = -1; i <= 17; i++) {
-            same("value(" + i + ")", bench.value(i), model.value(i));
+            same(Bench.VALUE, i);
             for (int what = -1; what <= 3; what++) {
-                same("trail(" + i + ", " + what + ")", bench.trail(i, what), model.trail(i, what));
+                same(Bench.TRAIL, i, what);
+            }
+        }
+    }
+
+    void compareProof(int from, int to) {
+        for (int i = from; i < to; i++) {
+            same(Bench.PROOF, i);
+        }
+    }
+
+    void compareLine(int k, int mask) {
+        same(Bench.ORIGIN, k);
+        same(Bench.HOLDS, k, mask);
+        for (int n = -1; n <= model.v + 1; n++) {
+            same(Bench.LITERAL, k, n);
+            for (int i = -1; i <= 8; i++) {
+                same(Bench.PIECE, k, n, i);
             }
         }
     }
@@ -112,18 +121,9 @@ final class Pair {
     void compareAll(int mask) {
         compareTexts();
         compareSearch();
-        for (int i = -1; i <= model.proof.length(); i++) {
-            same("proof(" + i + ")", bench.proof(i), model.proof(i));
-        }
+        compareProof(-1, model.proof.length() + 1);
         for (int k = 0; k <= model.rows.size() + 1; k++) {
-            same("origin(" + k + ")", bench.origin(k), model.origin(k));
-            same("holds(" + k + ", " + mask + ")", bench.holds(k, mask) ? 1 : 0, model.holds(k, mask) ? 1 : 0);
-            for (int n = -1; n <= model.v + 1; n++) {
-                same("literal(" + k + ", " + n + ")", bench.literal(k, n), model.literal(k, n));
-                for (int i = -1; i <= 8; i++) {
-                    same("piece(" + k + ", " + n + ", " + i + ")", bench.piece(k, n, i), model.piece(k, n, i));
-                }
-            }
+            compareLine(k, mask);
         }
     }
 }

@@ -7,7 +7,7 @@ import java.util.regex.Pattern;
 /** The document once more, with the Java library's whole numbers and lists: what ModelTest compares with. */
 final class PlainModel {
     static final BigInteger ROOM = BigInteger.ONE.shiftLeft(256);
-    private static final Pattern GAP = Pattern.compile("(?:[\\t\\n ]|#[\\t -~]*)*");
+    private static final Pattern GAP = Pattern.compile("(?:[\\t\\n ]++|#[\\t -~]*+)*+");
     private static final Pattern TOKEN = Pattern.compile("[0-9]+|~?x[0-9][0-9]?|>=|<=|[-+*;=pucdsw]");
 
     static final class Fault extends RuntimeException {
@@ -147,6 +147,8 @@ final class PlainModel {
     List<Row> rows = new ArrayList<>();
     int faultKind;
     int faultPlace = -1;
+    /** A test may set it higher, to see how long a PROOF would be. */
+    int mostProof = 20000;
 
     PlainModel(int v) {
         this.v = v < 1 ? 1 : v > 16 ? 16 : v;
@@ -592,7 +594,7 @@ final class PlainModel {
         if (level == 0) {
             step.append("c ").append(rows.size() + 1).append(" ;\n");
         }
-        if (rows.size() >= 300 || proof.length() + step.length() > 20000) {
+        if (rows.size() >= 300 || proof.length() + step.length() > mostProof) {
             throw new Full();
         }
         proof.append(step);
@@ -613,6 +615,27 @@ final class PlainModel {
     }
 
     // ---- the rest of the face
+
+    int answer(int... c) {
+        switch (c[0]) {
+            case Bench.FEED: return feed(c[1], c[2], c[3], c[4], c[5]);
+            case Bench.BACK: return back(c[1]);
+            case Bench.LOAD: return load();
+            case Bench.CHECK: return check();
+            case Bench.FAULT: return fault(c[1]);
+            case Bench.LITERAL: return literal(c[1], c[2]);
+            case Bench.PIECE: return piece(c[1], c[2], c[3]);
+            case Bench.HOLDS: return holds(c[1], c[2]) ? 1 : 0;
+            case Bench.ORIGIN: return origin(c[1]);
+            case Bench.BEGIN: return begin() ? 1 : 0;
+            case Bench.RUN: return run(c[1]);
+            case Bench.VALUE: return value(c[1]);
+            case Bench.TRAIL: return trail(c[1], c[2]);
+            case Bench.PROOF: return proof(c[1]);
+            case Bench.COUNT: return count(c[1]);
+            default: throw new IllegalArgumentException("no such call");
+        }
+    }
 
     int feed(int a, int b, int c, int d, int e) {
         if (tape.length() + 20 > 4000) {

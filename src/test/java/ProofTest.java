@@ -18,7 +18,7 @@ public final class ProofTest {
     private static void run(Random r) {
         int v = 3 + r.nextInt(6);
         String problem = problem(r, v);
-        PlaneBench x = Due.loaded(v, problem);
+        Bench x = Due.loaded(v, problem);
         x.begin();
         for (int i = 0; i < 10 && x.count(3) == 1; i++) {
             x.run(500);
@@ -41,7 +41,7 @@ public final class ProofTest {
         takeProof(v, problem, x);
     }
 
-    private static boolean holding(PlaneBench x, int mask) {
+    private static boolean holding(Bench x, int mask) {
         for (int k = 1; k <= x.count(1); k++) {
             if (!x.holds(k, mask)) {
                 return false;
@@ -50,8 +50,8 @@ public final class ProofTest {
         return true;
     }
 
-    private static void takeProof(int v, String problem, PlaneBench x) {
-        PlaneBench y = Due.loaded(v, problem);
+    private static void takeProof(int v, String problem, Bench x) {
+        Bench y = Due.loaded(v, problem);
         for (String step : Due.proof(x).split("(?<=\n)")) {
             if (step.isEmpty() || step.matches("(?s).*[0-9]{61}.*")) {
                 return;

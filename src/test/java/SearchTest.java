@@ -19,20 +19,20 @@ public final class SearchTest {
         Due.end("SearchTest");
     }
 
-    private static PlaneBench begun(int v, String problem) {
-        PlaneBench x = Due.loaded(v, problem);
+    private static Bench begun(int v, String problem) {
+        Bench x = Due.loaded(v, problem);
         Due.due("begin()", x.begin(), true);
         return x;
     }
 
-    private static void counts(String what, PlaneBench x, int... due) {
+    private static void counts(String what, Bench x, int... due) {
         for (int i = 0; i < due.length; i++) {
             Due.due(what + ": count(" + (i + 2) + ")", x.count(i + 2), due[i]);
         }
     }
 
     private static void withoutLines() {
-        PlaneBench x = new PlaneBench(2);
+        Bench x = new Bench(2);
         Due.due("begin()", x.begin(), true);
         counts("begun", x, 0, 1, 0, 0, 0, 0, 0);
         Due.due("run(0)", x.run(0), 0);
@@ -48,7 +48,7 @@ public final class SearchTest {
     }
 
     private static void limitsOfRun() {
-        PlaneBench x = new PlaneBench(2);
+        Bench x = new Bench(2);
         Due.due("run(1) without a search", x.run(1), -1);
         x.begin();
         for (int n : new int[] {Integer.MIN_VALUE, -1, 501, Integer.MAX_VALUE}) {
@@ -61,7 +61,7 @@ public final class SearchTest {
     }
 
     private static void forcedOnes() {
-        PlaneBench x = begun(4, "x1x2x3>=1; 3~x3 2x2 2~x1>=6; x4>=1;");
+        Bench x = begun(4, "x1x2x3>=1; 3~x3 2x2 2~x1>=6; x4>=1;");
         // LINE 2 has the REST 1 and FORCES all its LITERALS, one in an ACT, the least VARIABLE first.
         Due.due("run(1)", x.run(1), 1);
         Due.due("TRAIL", Due.trail(x), "-1@0/2");
@@ -85,7 +85,7 @@ public final class SearchTest {
 
     private static void choicesKeepTheirValues() {
         // ~x1 FORCES x3, then x2; LINE 3 is BROKEN. K is 1 x1 >= 1: it FORCES at LEVEL 0. x3 and x2 had the value true.
-        PlaneBench x = begun(3, "x1x3>=1; x1x2>=1; x1~x2~x3>=1;");
+        Bench x = begun(3, "x1x3>=1; x1x2>=1; x1~x2~x3>=1;");
         Due.due("run(3)", x.run(3), 3);
         Due.due("TRAIL", Due.trail(x), "-1@1/0 3@1/1 2@1/2");
         Due.due("run(1)", x.run(1), 1);
@@ -104,7 +104,7 @@ public final class SearchTest {
 
     private static void backjump() {
         // CHOICES ~x1, ~x2, ~x3; LINES 1 and 2 say that x3 is true when x1 is not: from LEVEL 3 back to 1.
-        PlaneBench x = begun(5, "x1x3x4>=1; x1x3~x4>=1;");
+        Bench x = begun(5, "x1x3x4>=1; x1x3~x4>=1;");
         Due.due("run(4)", x.run(4), 4);
         Due.due("TRAIL", Due.trail(x), "-1@1/0 -2@2/0 -3@3/0 4@3/1");
         Due.due("run(1)", x.run(1), 1);
@@ -120,7 +120,7 @@ public final class SearchTest {
 
     private static void weakened() {
         // ~x1: LINE 1 has the REST 2 and FORCES x2. In it x3 (2) and x4 (1) are OPEN, no multiples of 3, and go.
-        PlaneBench x = begun(4, "3x1 3x2 2x3 x4>=4; x1~x2>=1;");
+        Bench x = begun(4, "3x1 3x2 2x3 x4>=4; x1~x2>=1;");
         Due.due("run(1)", x.run(1), 1);
         Due.due("run(1)", x.run(1), 1);
         Due.due("TRAIL", Due.trail(x), "-1@1/0 2@1/1");
@@ -128,14 +128,14 @@ public final class SearchTest {
         Due.due("PROOF", Due.proof(x), "p 2 1 x3 w x4 w 3 d s + s ;\n");
         Due.due("LINE 3", Due.line(x, 3), "1 x1 >= 1");
         Due.due("TRAIL", Due.trail(x), "");
-        PlaneBench y = begun(4, "3x1 3x2 3x3 x4>=4; x1~x2>=1;");
+        Bench y = begun(4, "3x1 3x2 3x3 x4>=4; x1~x2>=1;");
         Due.due("nothing is FORCED yet", y.run(1), 1);
         Due.due("TRAIL", Due.trail(y), "-1@1/0");
     }
 
     private static void multiplied() {
         // LINE 2 is 2 ~x2 1 x1 1 x3 >= 2: BROKEN by ~x1, x2 with x3 OPEN; 2 times LINE 1 is taken.
-        PlaneBench x = begun(3, "x1x2>=1; x1 -2x2 x3>=0;");
+        Bench x = begun(3, "x1x2>=1; x1 -2x2 x3>=0;");
         Due.due("run(2)", x.run(2), 2);
         Due.due("TRAIL", Due.trail(x), "-1@1/0 2@1/1");
         Due.due("run(1)", x.run(1), 1);
@@ -147,7 +147,7 @@ public final class SearchTest {
     }
 
     private static void noneAtOnce() {
-        PlaneBench x = begun(2, "x1>=1;~x1x2>=1;~x2>=1;");
+        Bench x = begun(2, "x1>=1;~x1x2>=1;~x2>=1;");
         Due.due("run(500)", x.run(500), 3);
         Due.due("PROOF", Due.proof(x), "p 3 2 s + s 1 s + s ;\nc 4 ;\n");
         counts("NONE", x, 28, 3, 2, 0, 0, 1, 3, 1);
@@ -155,13 +155,13 @@ public final class SearchTest {
         Due.due("the last byte", x.proof(27), 10);
         Due.due("behind it", x.proof(28), -1);
         Due.due("run(1) at its end", x.run(1), 0);
-        PlaneBench y = Due.loaded(2, "x1>=1;~x1x2>=1;~x2>=1;");
+        Bench y = Due.loaded(2, "x1>=1;~x1x2>=1;~x2>=1;");
         Due.due("the checker takes the PROOF", Due.check(y, Due.proof(x)), 2);
         Due.due("without a FAULT", y.fault(0), 0);
     }
 
     private static void linesOfCheck() {
-        PlaneBench x = begun(3, "x1x2x3>=1;");
+        Bench x = begun(3, "x1x2x3>=1;");
         x.run(1);
         Due.check(x, "p 1 x1 w ; u x1 x2 x3 >= 1 ;");
         Due.due("a LINE that is no news", x.count(0), 3);
@@ -169,7 +169,7 @@ public final class SearchTest {
         Due.due("TRAIL", Due.trail(x), "-1@1/0 -2@2/0");
         Due.due("run(1)", x.run(1), 1);
         Due.due("TRAIL", Due.trail(x), "-1@1/0 -2@2/0 3@2/1");
-        PlaneBench y = begun(3, "~x2~x3>=1; ~x2x3>=1;");
+        Bench y = begun(3, "~x2~x3>=1; ~x2x3>=1;");
         y.run(1);
         Due.check(y, "u ~x2 >= 1 ;");
         Due.due("run(1)", y.run(1), 1);
@@ -180,7 +180,7 @@ public final class SearchTest {
     private static final String ONE_AT_MOST = "~x3~x4>=1; ~x3~x5>=1; ~x4~x5>=1; ";
 
     private static void aBrokenLineOfCheck() {
-        PlaneBench x = begun(5, ONE_AT_MOST + "x1x3x4x5>=2;");
+        Bench x = begun(5, ONE_AT_MOST + "x1x3x4x5>=2;");
         x.run(2);
         Due.due("TRAIL", Due.trail(x), "-1@1/0 -2@2/0");
         Due.due("a p", Due.check(x, "p 1 2 + 3 + 2 d 4 + ;"), 1);
@@ -196,7 +196,7 @@ public final class SearchTest {
     }
 
     private static void aFalseLineOfCheck() {
-        PlaneBench x = begun(5, ONE_AT_MOST + "x3x4x5>=2;");
+        Bench x = begun(5, ONE_AT_MOST + "x3x4x5>=2;");
         x.run(2);
         Due.due("TRAIL", Due.trail(x), "-1@1/0 -2@2/0");
         Due.check(x, "p 1 2 + 3 + 2 d 4 + ;");
@@ -212,7 +212,7 @@ public final class SearchTest {
         // ~x1 lets LINE 1 FORCE x2, which has 1 in it, and x3; LINE 2, BROKEN then, would take LINE 1 10 to the 50 times.
         String h = "1" + "0".repeat(50);
         String more = "1" + "0".repeat(49) + "1";
-        PlaneBench x = begun(3, "x2 " + h + "x1 " + h + "x3>=" + more + "; " + h + "~x2 " + h + "x1>=" + h + ";");
+        Bench x = begun(3, "x2 " + h + "x1 " + h + "x3>=" + more + "; " + h + "~x2 " + h + "x1>=" + h + ";");
         Due.due("run(3)", x.run(3), 3);
         Due.due("TRAIL", Due.trail(x), "-1@1/0 2@1/1 3@1/1");
         Due.due("run(500)", x.run(500), 1);
@@ -226,20 +226,20 @@ public final class SearchTest {
     }
 
     private static void fullByLines() {
-        PlaneBench x = Due.loaded(3, "x1x3>=1; x1x2>=1; x1~x2~x3>=1;");
+        Bench x = Due.loaded(3, "x1x3>=1; x1x2>=1; x1~x2~x3>=1;");
         Due.check(x, "p 1;".repeat(297));
         Due.due("LINES", x.count(0), 300);
         x.begin();
         Due.due("run(500)", x.run(500), 4);
         counts("FULL", x, 0, 4, 3, 1, 1, 0, 4);
         Due.due("TRAIL", Due.trail(x), "-1@1/0 3@1/1 2@1/2");
-        PlaneBench y = Due.loaded(3, "x1x3>=1; x1x2>=1; x1~x2~x3>=1;");
+        Bench y = Due.loaded(3, "x1x3>=1; x1x2>=1; x1~x2~x3>=1;");
         Due.check(y, "p 1;".repeat(296));
         y.begin();
         Due.due("run(4)", y.run(4), 4);
         Due.due("the 300th LINE", y.count(0), 300);
         Due.due("goes on", y.count(3), 1);
-        PlaneBench z = Due.loaded(1, ">=1;");
+        Bench z = Due.loaded(1, ">=1;");
         Due.check(z, "p 1;".repeat(299));
         z.begin();
         Due.due("run(500)", z.run(500), 1);
@@ -247,7 +247,7 @@ public final class SearchTest {
     }
 
     /** Three sums of great numbers that are hard to meet. */
-    private static PlaneBench searched(int seed) {
+    private static Bench searched(int seed) {
         StringBuilder text = new StringBuilder();
         java.util.Random r = new java.util.Random(seed);
         for (int i = 0; i < 3; i++) {
@@ -259,7 +259,7 @@ public final class SearchTest {
             }
             text.append('=').append(sum).append(";\n");
         }
-        PlaneBench x = begun(16, text.toString());
+        Bench x = begun(16, text.toString());
         int acts = 0;
         for (int i = 0; i < 20 && x.count(3) == 1; i++) {
             acts += x.run(500);
@@ -270,7 +270,7 @@ public final class SearchTest {
 
     /** Great numbers make a long PROOF: it ends with a STEP that is whole. */
     private static void fullByProof() {
-        PlaneBench x = searched(5);
+        Bench x = searched(5);
         Due.due("FULL", x.count(3), 4);
         Due.due("not by LINES", x.count(0) < 300, true);
         Due.due("near the limit", x.count(2) > 18000 && x.count(2) <= 20000, true);
@@ -284,7 +284,7 @@ public final class SearchTest {
     }
 
     private static void countsOfThisSearch() {
-        PlaneBench x = begun(3, "x1x3>=1; x1x2>=1; x1~x2~x3>=1;");
+        Bench x = begun(3, "x1x3>=1; x1x2>=1; x1~x2~x3>=1;");
         x.run(6);
         counts("six ACTS", x, 22, 1, 2, 1, 2, 1, 6);
         x.begin();

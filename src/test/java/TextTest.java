@@ -21,40 +21,35 @@ public final class TextTest {
         Due.end("TextTest");
     }
 
-    private static void fault(String what, PlaneBench x, int kind, int place) {
-        Due.due(what + ": fault(0)", x.fault(0), kind);
-        Due.due(what + ": fault(1)", x.fault(1), place);
-    }
-
     private static void loadFault(int v, String text, int kind, int place) {
-        PlaneBench x = Due.loaded(v, "x1>=1;x1>=0;");
+        Bench x = Due.loaded(v, "x1>=1;x1>=0;");
         Due.write(x, text);
         Due.due(text + ": load()", x.load(), -1);
-        fault(text, x, kind, place);
+        Due.fault(text, x, kind, place);
         Due.due(text + ": count(0)", x.count(0), 2);
         Due.due(text + ": count(10)", x.count(10), 0);
     }
 
     /** With LINES 1: 2 x1 1 ~x2 >= 2, and 2: >= 1 (FALSE), of three VARIABLES. */
-    private static PlaneBench small() {
+    private static Bench small() {
         return Due.loaded(3, "2x1 ~x2>=2; >=1;");
     }
 
     private static void checkFault(String text, int done, int kind, int place) {
-        PlaneBench x = small();
+        Bench x = small();
         Due.due(text + ": check()", Due.check(x, text), done);
-        fault(text, x, kind, place);
+        Due.fault(text, x, kind, place);
         Due.due(text + ": count(10)", x.count(10), 0);
     }
 
     private static void newObject() {
         for (int v : new int[] {Integer.MIN_VALUE, -1, 0, 1, 2, 15, 16, 17, Integer.MAX_VALUE}) {
             int most = Math.max(1, Math.min(16, v));
-            PlaneBench x = new PlaneBench(v);
+            Bench x = new Bench(v);
             for (int what = 0; what <= 10; what++) {
                 Due.due("new, v " + v + ": count(" + what + ")", x.count(what), 0);
             }
-            fault("new", x, 0, -1);
+            Due.fault("new", x, 0, -1);
             Due.due("new: run(1)", x.run(1), -1);
             Due.due("new: run(0)", x.run(0), -1);
             Due.due("new: origin(1)", x.origin(1), 0);
@@ -62,13 +57,13 @@ public final class TextTest {
             Due.due("v " + v + ": load() of the last", x.load(), 1);
             Due.write(x, "x" + (most + 1) + ">=1;");
             Due.due("v " + v + ": load() of one more", x.load(), -1);
-            fault("v " + v, x, 2, 0);
+            Due.fault("v " + v, x, 2, 0);
         }
         Due.due("NONE", PlaneBench.NONE, -1);
     }
 
     private static void feedAndBack() {
-        PlaneBench x = new PlaneBench(2);
+        Bench x = new Bench(2);
         Due.due("feed", x.feed(0x78312078, 0x323e3d31, 0x3b202020, 0x20202020, 0x20202020), 20);
         Due.due("back(0)", x.back(0), 20);
         Due.due("back(-1)", x.back(-1), -1);
@@ -94,7 +89,7 @@ public final class TextTest {
     }
 
     private static void load() {
-        PlaneBench x = Due.loaded(4, "x1 x2 >= 1 ; 3 x3 <= 2 ; x1 x4 = 1 ;");
+        Bench x = Due.loaded(4, "x1 x2 >= 1 ; 3 x3 <= 2 ; x1 x4 = 1 ;");
         Due.due("count(0)", x.count(0), 4);
         Due.due("count(1)", x.count(1), 4);
         Due.check(x, "p 1 2 + ;");
@@ -119,7 +114,7 @@ public final class TextTest {
         Due.due("no LINE 2", x.origin(2), 0);
         Due.due("load() of nothing", x.load(), 0);
         Due.due("no LINES", x.count(0), 0);
-        fault("of nothing", x, 0, -1);
+        Due.fault("of nothing", x, 0, -1);
         Due.write(x, "x1>=1;".repeat(40));
         Due.due("40 LINES", x.load(), 40);
         Due.write(x, "x1=1;".repeat(20));
@@ -127,7 +122,7 @@ public final class TextTest {
     }
 
     private static void problem(String text, String... lines) {
-        PlaneBench x = Due.loaded(12, text);
+        Bench x = Due.loaded(12, text);
         Due.due(text + ": count(0)", x.count(0), lines.length);
         for (int k = 1; k <= lines.length; k++) {
             Due.due(text + ": LINE " + k, Due.line(x, k), lines[k - 1]);
@@ -218,9 +213,9 @@ public final class TextTest {
     }
 
     private static void step(String text, String line) {
-        PlaneBench x = Due.loaded(4, "2x1 3~x2 x3>=4; 3x2 2x3 ~x1>=3; 5x1 5x2 5x3>=6; x4>=0;");
+        Bench x = Due.loaded(4, "2x1 3~x2 x3>=4; 3x2 2x3 ~x1>=3; 5x1 5x2 5x3>=6; x4>=0;");
         Due.due(text + ": check()", Due.check(x, text), 1);
-        fault(text, x, 0, -1);
+        Due.fault(text, x, 0, -1);
         Due.due(text, Due.line(x, 5), line);
         Due.due(text + ": origin", x.origin(5), 2);
         Due.due(text + ": count(1)", x.count(1), 4);
@@ -254,15 +249,15 @@ public final class TextTest {
         step("p 4 ~x4 7 * + ;", "6 ~x4 >= 0");
         step("p3 5d2*3+2d;", "4 x1 4 x2 4 x3 >= 5");
         step("p x1 x2 x3 x1 x2 x3 x1 x2 x3 x1 x2 x3 + + + + + + + + + + + ;", "4 x1 4 x2 4 x3 >= 0");
-        PlaneBench x = small();
+        Bench x = small();
         Due.due("new LINES can be named at once", Due.check(x, "p 1;p 3 3+;c 2;p 4 2 d s;"), 4);
         Due.due("c makes none", x.count(0), 5);
         Due.due("LINE 4", Due.line(x, 4), "4 x1 2 ~x2 >= 4");
         Due.due("LINE 5", Due.line(x, 5), "2 x1 1 ~x2 >= 2");
         Due.due("nothing", Due.check(x, ""), 0);
-        fault("nothing", x, 0, -1);
+        Due.fault("nothing", x, 0, -1);
         Due.due("done up to the FAULT", Due.check(x, "p 1; p 1; p 1 + ; p 1;"), 2);
-        fault("done up to the FAULT", x, 4, 14);
+        Due.fault("done up to the FAULT", x, 4, 14);
         Due.due("two more", x.count(0), 7);
     }
 
@@ -308,7 +303,7 @@ public final class TextTest {
     }
 
     private static void roomFaults() {
-        PlaneBench x = Due.loaded(2, "x1>=1; ~x1>=1; 2x2>=0; >=1;");
+        Bench x = Due.loaded(2, "x1>=1; ~x1>=1; 2x2>=0; >=1;");
         String f = "340282366920938463463374607431768211456 * ";
         // LINES 5 to 8: 2 to the 255 of x1, of its opposite, and the DEGREE alone, once less 1.
         Due.due("up to 2 to the 255", Due.check(x, "p 1 " + f + "170141183460469231731687303715884105728 * ;"
@@ -317,46 +312,46 @@ public final class TextTest {
         Due.due("bit 255", x.piece(5, 1, 7), Integer.MIN_VALUE);
         Due.due("bit 255 of the DEGREE", x.piece(7, 0, 7), Integer.MIN_VALUE);
         Due.due("twice", Due.check(x, "p 5 2 * ;"), 0);
-        fault("twice", x, 5, 6);
+        Due.fault("twice", x, 5, 6);
         Due.due("the SUM with itself", Due.check(x, "p 5 5 + ;"), 0);
-        fault("the SUM with itself", x, 5, 6);
+        Due.fault("the SUM with itself", x, 5, 6);
         Due.due("the DEGREE alone", Due.check(x, "p 7 7 + ;"), 0);
-        fault("the DEGREE alone", x, 5, 6);
+        Due.fault("the DEGREE alone", x, 5, 6);
         Due.due("it counts when all is done", Due.check(x, "p 5 6 + ;"), 1);
         Due.due("the DEGREE is 2 to the 255", x.piece(8, 0, 7), Integer.MIN_VALUE);
         Due.due("no LITERAL", x.literal(8, 1), 0);
         Due.due("TIMES of a great one", Due.check(x, "p 5 " + f + ";"), 0);
-        fault("TIMES of a great one", x, 5, 44);
+        Due.fault("TIMES of a great one", x, 5, 44);
         Due.due("DIVIDED", Due.check(x, "p 5 3 d ;"), 1);
         Due.due("rounded up", x.piece(9, 1, 0), 0xaaaaaaab);
         Due.due("its top", x.piece(9, 1, 7), 0x2aaaaaaa);
         Due.due("2 to the 255 of x2, DEGREE 0", Due.check(x, "p 3 2 d " + f + "170141183460469231731687303715884105728 * ;"), 1);
         Due.due("the COEFFICIENT alone", Due.check(x, "p 10 10 + ;"), 0);
-        fault("the COEFFICIENT alone", x, 5, 8);
-        PlaneBench y = small();
+        Due.fault("the COEFFICIENT alone", x, 5, 8);
+        Bench y = small();
         Due.due("300 LINES", Due.check(y, "p 1;".repeat(298)), 298);
         Due.due("count(0)", y.count(0), 300);
         Due.due("c goes on", Due.check(y, "c 2;"), 1);
         Due.due("one more by p", Due.check(y, "p 1 ;"), 0);
-        fault("one more by p", y, 5, 4);
+        Due.fault("one more by p", y, 5, 4);
         Due.due("the STACK ahead of it", Due.check(y, "p 1 1 ;"), 0);
-        fault("the STACK ahead of it", y, 4, 6);
+        Due.fault("the STACK ahead of it", y, 4, 6);
         Due.due("one more by u", Due.check(y, "u >= 0 ;"), 0);
-        fault("one more by u", y, 5, 7);
-        PlaneBench z = Due.loaded(2, "x1>=1;");
+        Due.fault("one more by u", y, 5, 7);
+        Bench z = Due.loaded(2, "x1>=1;");
         Due.check(z, "p 1;".repeat(299));
         Due.due("one that does not follow", Due.check(z, "u x2 >= 1 ;"), 0);
-        fault("one that does not follow", z, 5, 10);
+        Due.fault("one that does not follow", z, 5, 10);
         Due.write(z, "x1>=1;");
         Due.due("load() makes room", z.load(), 1);
         Due.due("again", Due.check(z, "p 1;"), 1);
     }
 
     private static void forcing(String problem, String claim, boolean follows) {
-        PlaneBench x = Due.loaded(4, problem);
+        Bench x = Due.loaded(4, problem);
         int before = x.count(0);
         Due.due(problem + " " + claim, Due.check(x, claim), follows ? 1 : 0);
-        fault(problem + " " + claim, x, follows ? 0 : 6, follows ? -1 : claim.indexOf(';'));
+        Due.fault(problem + " " + claim, x, follows ? 0 : 6, follows ? -1 : claim.indexOf(';'));
         Due.due(problem + " " + claim + ": count(0)", x.count(0), before + (follows ? 1 : 0));
         Due.due(problem + " " + claim + ": origin", x.origin(before + 1), follows ? 3 : 0);
     }
@@ -381,9 +376,9 @@ public final class TextTest {
         forcing("x1x2x3>=2;", "u 2x1 2x2 2x3>=3;", false);
         forcing("x1x2x3>=2;", "u x1x2x3>=3;", false);
         forcing("x1>=2;", "u x1>=5;", true);
-        PlaneBench x = Due.loaded(3, "x1>=1;~x1x2>=1;");
+        Bench x = Due.loaded(3, "x1>=1;~x1x2>=1;");
         Due.due("u on u", Due.check(x, "u 4 x2 -1 ~x3 >= 2 ; u x2 x3 >= 1 ; u x3 >= 1 ;"), 2);
-        fault("u on u", x, 6, 46);
+        Due.fault("u on u", x, 6, 46);
         Due.due("as in a PROBLEM", Due.line(x, 3), "4 x2 1 x3 >= 3");
         checkFault("u x1 <= 1 ;", 0, 1, 5);
         checkFault("u x1 = 1 ;", 0, 1, 5);
@@ -394,10 +389,10 @@ public final class TextTest {
     }
 
     private static void claims() {
-        PlaneBench x = Due.loaded(2, "x1>=1; >=1; x1 x2>=3; x1>=0;");
+        Bench x = Due.loaded(2, "x1>=1; >=1; x1 x2>=3; x1>=0;");
         Due.due("FALSE ones", x.count(9), 2);
         Due.due("c", Due.check(x, "c 2 ; c 3 ; c 1 ;"), 2);
-        fault("c", x, 6, 16);
+        Due.fault("c", x, 6, 16);
         Due.due("c makes none", x.count(0), 4);
         Due.due("one more", Due.check(x, "p 2;"), 1);
         Due.due("FALSE ones", x.count(9), 3);
@@ -421,26 +416,26 @@ public final class TextTest {
         checkFault("?", 0, 1, 0);
         checkFault("#\u0001", 0, 1, 1);
         checkFault("p 1 ;#\u0001", 1, 1, 6);
-        PlaneBench x = new PlaneBench(2);
+        Bench x = new Bench(2);
         Due.due("fault(2)", x.fault(2), -1);
         Due.due("fault(-1)", x.fault(-1), -1);
         Due.check(x, " ?");
-        fault("the latest", x, 1, 1);
+        Due.fault("the latest", x, 1, 1);
         Due.due("fault(2)", x.fault(2), -1);
         x.load();
-        fault("the latest", x, 0, -1);
+        Due.fault("the latest", x, 0, -1);
         Due.write(x, "x9");
         x.load();
-        fault("the latest", x, 2, 0);
+        Due.fault("the latest", x, 2, 0);
         x.begin();
         x.run(2);
-        fault("the search has none", x, 2, 0);
+        Due.fault("the search has none", x, 2, 0);
         x.check();
-        fault("the latest", x, 0, -1);
+        Due.fault("the latest", x, 0, -1);
     }
 
     private static void linesAreTold() {
-        PlaneBench x = Due.loaded(3, "2x1 3~x2>=4;");
+        Bench x = Due.loaded(3, "2x1 3~x2>=4;");
         Due.due("literal(1, 1)", x.literal(1, 1), 1);
         Due.due("literal(1, 2)", x.literal(1, 2), -1);
         Due.due("literal(1, 3)", x.literal(1, 3), 0);
@@ -466,13 +461,13 @@ public final class TextTest {
         Due.due("origin(1)", x.origin(1), 1);
         Due.due("count(-1)", x.count(-1), -1);
         Due.due("count(11)", x.count(11), -1);
-        PlaneBench y = Due.loaded(1, ">=0;>=1;");
+        Bench y = Due.loaded(1, ">=0;>=1;");
         Due.due("DEGREE 0 holds", y.holds(1, 0), true);
         Due.due("a FALSE one does not", y.holds(2, -1), false);
     }
 
     private static void wideNumbers() {
-        PlaneBench x = Due.loaded(2, NINES + "x1 " + NINES + "x1 -" + NINES + "x2>=-" + NINES + ";");
+        Bench x = Due.loaded(2, NINES + "x1 " + NINES + "x1 -" + NINES + "x2>=-" + NINES + ";");
         java.math.BigInteger nines = new java.math.BigInteger(NINES);
         for (int i = 0; i < 8; i++) {
             Due.due("piece(1, 1, " + i + ")", x.piece(1, 1, i), nines.shiftLeft(1).shiftRight(32 * i).intValue());
@@ -506,7 +501,7 @@ public final class TextTest {
             java.math.BigInteger a = edgy(r);
             java.math.BigInteger f = edgy(r);
             java.math.BigInteger d = edgy(r);
-            PlaneBench x = Due.loaded(1, a + "x1>=" + f + ";");
+            Bench x = Due.loaded(1, a + "x1>=" + f + ";");
             boolean room = a.max(f).multiply(f).compareTo(PlainModel.ROOM) < 0;
             String step = "p 1 " + f + " * " + d + " d ;";
             Due.due(a + " " + step, Due.check(x, step), room ? 1 : 0);
