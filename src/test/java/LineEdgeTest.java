@@ -28,6 +28,7 @@ public final class LineEdgeTest {
         broken();
         forces();
         greatRests();
+        nothingIsLeft();
         Due.end("LineEdgeTest");
     }
 
@@ -332,6 +333,13 @@ public final class LineEdgeTest {
         isFalse("2x1 3~x2>=4;", "", 1, false);
         isFalse("2x1 3~x2>=5;", "", 1, false);
         isFalse("2x1 3~x2>=6;", "", 1, true);
+        for (int degree = 4; degree <= 6; degree++) {
+            for (String line : new String[] {"3~x1 2x2>=", "3x1 2x2>=", "3~x1 2~x2>=", "5~x1>=", "5x3>=", "5~x3>="}) {
+                isFalse(line + degree + ";", "", 1, degree == 6);
+                isFalse(line + degree + ";", "p 1;", 2, degree == 6);
+                isFalse(line + degree + ";", "u " + line + degree + ";", 2, degree == 6);
+            }
+        }
         isFalse(">=0;", "", 1, false);
         isFalse(">=1;", "", 1, true);
         isFalse(A + "x1 x2>=" + A + ";", "", 1, false);
@@ -409,5 +417,30 @@ public final class LineEdgeTest {
             x.run(1);
             Due.due(lines[i], Due.trail(x), due[i]);
         }
+    }
+
+    private static void nothingIsLeft() {
+        Due.sentence("for each VARIABLE at most one of its LITERALS: none of an earlier LINE's");
+        Bench x = bench(4, "2x1 3~x2 x4>=1;", "p 1 ; p ~x2 ; p 1 x3 + ; p x3 ~x1 + ; p x4 ; p ~x4 1 + ; p 1 s ; p x2 s x2 +;"
+            + "p ~x1 ~x3 + ~x1 w x1 + ; u ~x4 >= 0 ; u x4 >= 0 ; p x3 ;");
+        String[] due = {"2 x1 3 ~x2 1 x4 >= 1", "2 x1 3 ~x2 1 x4 >= 1", "1 ~x2 >= 0", "2 x1 3 ~x2 1 x3 1 x4 >= 1", "1 ~x1 1 x3 >= 0",
+            "1 x4 >= 0", "2 x1 3 ~x2 >= 0", "1 x1 1 ~x2 1 x4 >= 1", "1 x2 >= 0", "1 x1 1 ~x3 >= 0", "1 ~x4 >= 0", "1 x4 >= 0",
+            "1 x3 >= 0"};
+        for (int k = 1; k <= due.length; k++) {
+            Due.due("LINE " + k, Due.line(x, k), due[k - 1]);
+        }
+        String[] problems = {"~x1 ~x2>=1;x3>=1;", "x1 x4>=1;~x3>=1;", "x2>=0;x2>=0;", "~x3>=0;~x1>=0;", "x4>=0;x1>=0;", ">=0;>=0;"};
+        String[] lines = {"1 ~x1 1 ~x2 >= 1", "1 x1 1 x4 >= 1", "1 x2 >= 0", "1 ~x3 >= 0", "1 x4 >= 0", ">= 0"};
+        for (int i = 0; i < 2 * problems.length; i++) {
+            Due.due("load()", Due.load(x, problems[i % problems.length]), 2);
+            Due.due(problems[i % problems.length], Due.line(x, 1), lines[i % problems.length]);
+        }
+        // LINES that were looked at before a load() are FALSE or not by their own numbers.
+        Bench y = bench(3, "x1 x2 x3>=1;", "p 1 ; p 1 ; p 1 ;");
+        y.begin();
+        y.run(2);
+        Due.due("load()", Due.load(y, "x1 x2 x3>=4;"), 1);
+        Due.due("check()", Due.check(y, "p 1 ; p 1 ; c 2 ; c 3 ;"), 4);
+        Due.due("FALSE ones", y.count(9), 3);
     }
 }

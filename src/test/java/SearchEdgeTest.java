@@ -19,6 +19,7 @@ public final class SearchEdgeTest {
         choices();
         theValueThatItHadLast();
         readyAtTheLeastLevel();
+        readyAfterAnotherConflict();
         levelsAboveGo();
         multiples();
         itsOwnLiteralStays();
@@ -188,6 +189,22 @@ public final class SearchEdgeTest {
         Due.due("PROOF", Due.proof(y), "p 2 1 s + s ;\n");
         Due.due("LINE 3", Due.line(y, 3), "1 x1 1 x2 >= 1");
         Due.due("LEVEL 1", Due.trail(y), "-1@1/0");
+    }
+
+    private static void readyAfterAnotherConflict() {
+        Due.sentence("READY: at the least LEVEL j, whatever an earlier K was");
+        Bench x = begun(7, "~x4~x5>=1; ~x4~x6>=1; ~x5~x6>=1; 20x1 9x2 10x4 10x5 10x6>=20; x1x2x7>=1; x1x2~x7>=1;");
+        Due.due("run(4)", x.run(4), 4);
+        Due.due("the earlier K", Due.line(x, 7), "1 x1 1 x2 >= 1");
+        Due.due("run(2)", x.run(2), 2);
+        Due.due("TRAIL", Due.trail(x), "-1@1/0 2@1/7 -3@2/0");
+        Due.due("a LINE", Due.check(x, "p 1 2 + 3 + 2 d 10 * 4 + ;"), 1);
+        Due.due("LINE 8", Due.line(x, 8), "20 x1 9 x2 >= 10");
+        // BROKEN at LEVEL 1; at LEVEL 0 it FORCES x1.
+        Due.due("run(1)", x.run(1), 1);
+        Due.due("PROOF", Due.proof(x), "p 6 5 s + s ;\np 8 ;\n");
+        Due.due("LEVEL 0", Due.trail(x), "");
+        counts("LEVEL 0", x, 20, 1, 0, 0, 3, 2, 7);
     }
 
     private static void levelsAboveGo() {
@@ -418,6 +435,13 @@ public final class SearchEdgeTest {
             Due.due(what, x.count(3), 4);
             Due.due(what + ": run(500)", x.run(500), 0);
             Seen.same(what, Seen.now(x), seen, "count(3)", "count(8)");
+            x.begin();
+            x.run(500);
+            Due.due(what + ": a PROOF of another search", x.count(2) > 0 && x.count(7) > 0, true);
+            Due.load(x, States.LEARNING);
+            x.begin();
+            Due.due(what + ": of another PROBLEM", x.run(4), 4);
+            Due.due(what + ": of another PROBLEM", Due.proof(x), "p 3 2 s + s 1 s + s ;\n");
         }
     }
 
@@ -556,6 +580,8 @@ public final class SearchEdgeTest {
                 Bench due = new Bench(3);
                 Due.load(due, text);
                 Seen.same(state.getKey() + ": load() of " + text, Seen.whole(x), Seen.whole(due));
+                String steps = "p x1 x2 + ~x3 + ; p ~x1 ; u x1 ~x2 >= 0 ; p x3 2 * ; p 1 ; p 2 x1 + ;";
+                Due.due(state.getKey() + ": STEPS", Due.check(x, steps), Due.check(due, steps));
                 x.begin();
                 due.begin();
                 Seen.same(state.getKey() + ": begin() behind it", Seen.whole(x), Seen.whole(due));
