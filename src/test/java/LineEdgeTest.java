@@ -22,6 +22,7 @@ public final class LineEdgeTest {
         degreesOfSums();
         times();
         divided();
+        dividedAtMultiples();
         cut();
         without();
         falseLines();
@@ -280,6 +281,45 @@ public final class LineEdgeTest {
         step(n + "x1>=" + n + ";", "p 1 " + n + "d;", "1 x1 >= 1");
         step(n + "x1>=" + n + ";", "p 1 " + n.subtract(ONE) + "d;", "2 x1 >= 2");
         step(n + "x1>=" + n + ";", "p 1 " + n.add(ONE) + "d;", "1 x1 >= 1");
+    }
+
+    /** Words of 32 bits at their edges: there long division guesses too high, and has to go back. */
+    private static BigInteger edgy(java.util.Random r) {
+        long[] words = {0, 1, 2, 3, 0x7fffffffL, 0x80000000L, 0x80000001L, 0xfffffffdL, 0xfffffffeL, 0xffffffffL};
+        BigInteger n = BigInteger.valueOf(1 + r.nextInt(3));
+        for (int i = r.nextInt(5); i > 0; i--) {
+            long word = r.nextInt(6) == 0 ? r.nextInt() & 0xffffffffL : words[r.nextInt(words.length)];
+            n = n.shiftLeft(32).add(BigInteger.valueOf(word));
+        }
+        return n.shiftRight(r.nextInt(6)).max(BigInteger.TWO);
+    }
+
+    private static void dividedAtMultiples() {
+        Due.sentence("DIVIDED by n: rounded up; a multiple of n is not, nor does 1 less make it less");
+        String[] hard = {"9903520317165345960575893504 3774966190", "4951760158582672980220837888 1729382256641835008",
+            "12379400391700881245323919359 1729382256507617280", "36893488143124135935 36893488147419103231",
+            "30727906349924503421 36893488147419103231", "36893488157217053707 36893488143124135935"};
+        for (String two : hard) {
+            atMultiple(new BigInteger(two.split(" ")[0]), new BigInteger(two.split(" ")[1]));
+        }
+        java.util.Random r = new java.util.Random(17);
+        for (int i = 0; i < 4000; i++) {
+            atMultiple(edgy(r), edgy(r));
+        }
+    }
+
+    /** LINES of n times as much, 1 less and 1 more, DIVIDED by n. */
+    private static void atMultiple(BigInteger n, BigInteger much) {
+        if (n.multiply(much).compareTo(MOST) >= 0) {
+            return;
+        }
+        String times = "p 1 " + much + " * ";
+        Bench x = Due.loaded(1, n + "x1>=" + n + ";");
+        String by = n + " d ;";
+        Due.due(n + " times " + much, Due.check(x, times + by + times + "~x1 + " + by + times + "x1 + " + by), 3);
+        Due.due(n + " times " + much, Due.line(x, 2), much + " x1 >= " + much);
+        Due.due(n + " times " + much + ", 1 less", Due.line(x, 3), much + " x1 >= " + much);
+        Due.due(n + " times " + much + ", 1 more", Due.line(x, 4), much.add(ONE) + " x1 >= " + much);
     }
 
     private static void cut() {
